@@ -416,9 +416,13 @@ public final class VcdiffForms {
         }
 
         void append(Row from, int first, int n) {
-            for (int k = 0; k < n; k++) {
-                push(from.at(first + k));
+            if (first < 0 || n < 0 || n > from.count || first > from.count - n) {
+                return;
             }
+            int kept = Math.min(n, room());
+            System.arraycopy(from.cells, first, cells, count, kept);
+            count += kept;
+            lost = lost || kept < n;
         }
 
         long sum(int from, int end) {

@@ -449,10 +449,10 @@ public final class PromiseTests {
         }
     }
 
-    /** Of an old of 500 bytes that have nothing twice, a row of pieces of it: places and sizes. */
-    private static VcdiffForms ofPieces(int... pieces) {
+    /** Of old bytes that have nothing twice, a row of pieces of them: places and sizes. */
+    private static VcdiffForms ofPieces(int oldSize, int... pieces) {
         VcdiffForms x = new VcdiffForms();
-        x.fill(500, 3, 0);
+        x.fill(oldSize, 3, 0);
         x.old();
         x.swap();
         for (int k = 0; k < pieces.length; k += 2) {
@@ -464,8 +464,12 @@ public final class PromiseTests {
     }
 
     private static void dueModes(String want, int... pieces) {
+        dueModesOf(500, want, pieces);
+    }
+
+    private static void dueModesOf(int oldSize, String want, int... pieces) {
         checks++;
-        String got = opened(ofPieces(pieces), 0);
+        String got = opened(ofPieces(oldSize, pieces), 0);
         if (!got.equals(want)) {
             wrong++;
             System.out.println("14 addresses: " + got + ", due is " + want);
@@ -494,6 +498,8 @@ public final class PromiseTests {
                 300, 4, 140, 4, 10, 4, 20, 4, 30, 4, 300, 6);
         dueModes("C4@200m0 C4@340m0 C4@10m0 C4@20m0 C4@30m0 C6@200m6",
                 200, 4, 340, 4, 10, 4, 20, 4, 30, 4, 200, 6);
+        dueModesOf(1000, "C4@768m0 C4@140m0 C4@10m0 C4@20m0 C4@30m0 C6@768m6",
+                768, 4, 140, 4, 10, 4, 20, 4, 30, 4, 768, 6);
     }
 
     private static void dueCodes(String what, VcdiffForms x, int marks, int... codes) {
@@ -533,12 +539,33 @@ public final class PromiseTests {
         x.entry(1, 1, 97);
         due("14 that can't be told", x.make(2), -3);
         due("14 but by the usual table", x.make(0), 16);
+        firstAndLastCode();
         // A code whose first instruction is nothing is never taken.
         x.entry(1, 0, 0);
         x.entry(1, 1, 0);
         x.entry(1, 3, 1);
         x.entry(1, 4, 3);
         due("14 nothing first", x.make(2), -3);
+    }
+
+    private static void firstAndLastCode() {
+        VcdiffForms x = ofTexts("", "abc");
+        x.entry(0, 0, 1);
+        x.entry(0, 1, 3);
+        dueCodes("14 code 0 for one", x, 2, 'c', 0);
+        x = ofTexts("abcd", "xabcd");
+        x.entry(0, 0, 1);
+        x.entry(0, 1, 1);
+        x.entry(0, 3, 3);
+        x.entry(0, 4, 4);
+        dueCodes("14 code 0 for two", x, 2, 'x', 0, 0);
+        x = ofTexts("", "abcdefghijklmnopqrstuvwxyz");
+        x.entry(255, 0, 1);
+        x.entry(255, 1, 26);
+        x.entry(255, 2, 0);
+        x.entry(255, 3, 0);
+        x.entry(255, 4, 0);
+        dueCodes("14 code 255", x, 2, 'z', 255);
     }
 
     private static void makeRefuses() {
@@ -790,6 +817,7 @@ public final class PromiseTests {
         dueFault("15 fault 1, sum bytes", of(join(HEAD, ints(4, 77, 0, 0, 0, 0, 0, 1, 1, 1))), 1, 15);
         dueFault("15 fault 8 behind the sum", of(join(HEAD, ints(4, 77, 0, 0, 0, 0, 0, 1, 1, 1, 1))), 8, 6);
         dueFault("15 fault 9", of(with(ABC, 8, 1)), 9, 8);
+        dueFault("15 fault 9 of the last byte", of(join(HEAD, ints(0, 9, 3, 1))), 9, 8);
         dueFault("15 fault 3, the target's size", of(join(HEAD, ints(0, 9, 255, 255, 255, 255, 255))), 3, 7);
         dueFault("15 fault 3, how many follow", of(join(HEAD, ints(0, 255, 255, 255, 255, 255))), 3, 6);
         dueFault("15 fault 3, addresses", of(join(HEAD, ints(0, 9, 1, 0, 1, 1, 255, 255, 255, 255, 255))), 3, 11);
@@ -996,6 +1024,9 @@ public final class PromiseTests {
         due("20 an ADD in a second window", x.open(), 14);
         due("20 they are 0 in each window", x.cache(0, 0), 0);
         due("20 same as well", x.cache(1, 3), 0);
+        x = of(join(HEAD, copies, window(5, ints('z'), ints(0, 5), ints())));
+        due("20 a RUN in a second window", x.open(), 18);
+        due("20 they are 0 behind it", x.cache(0, 0), 0);
         // By the words: as it was behind the latest instruction, and that was in the first window.
         x = of(join(HEAD, copies, window(5, ints('a'), ints(36), ints(1))));
         dueFault("20 a second window without an instruction that is through", x, 14, 5 + copies.length + 7 + 1);
@@ -1010,6 +1041,19 @@ public final class PromiseTests {
         x.open();
         due("20 0 before any window's", x.cache(0, 0), 0);
         ofOtherSizes();
+        ofOneSlot();
+    }
+
+    private static void ofOneSlot() {
+        // RUN of 800, COPY 4 of 768 (134, 0 as BIG number), COPY 4 of 0: both are told by same 0.
+        int[] run = {0, 134, 32};
+        VcdiffForms x = of(join(HEAD, ints(0, 13, 134, 36, 0, 1, 4, 2, 'z'), run, ints(20, 134, 0)));
+        due("20 COPY of 768", x.open(), 804);
+        due("20 same 0 is 768", x.cache(1, 0), 768);
+        x = of(join(HEAD, ints(0, 15, 134, 40, 0, 1, 5, 3, 'z'), run, ints(20, 20, 134, 0, 0)));
+        due("20 COPY of 768 and of 0", x.open(), 808);
+        due("20 same 0 is 0 again", x.cache(1, 0), 0);
+        due("20 near 0", x.cache(0, 0), 768);
     }
 
     private static void ofOtherSizes() {

@@ -307,10 +307,10 @@ public final class VcdiffForms {
 
     public int cache(int which, int i) {
         if (which == 0 && i >= 0 && i < openCaches.nearCount) {
-            return openCaches.heldNear(i);
+            return openCaches.nearAt(i);
         }
         if (which == 1 && i >= 0 && i < openCaches.sameCount) {
-            return openCaches.heldSame(i);
+            return openCaches.sameAt(i);
         }
         return OUT_OF_RANGE;
     }
@@ -592,9 +592,6 @@ public final class VcdiffForms {
         private int nearCount;
         private int sameCount;
         private int next;
-        // A WINDOW has begun of which no instruction is through: its numbers are all 0, while those
-        // of the latest instruction, in an earlier WINDOW, are still to be told.
-        private boolean begun;
 
         Caches(int nearRoom, int sameRoom) {
             near = new int[Math.max(nearRoom, 0)];
@@ -607,44 +604,23 @@ public final class VcdiffForms {
             wipe();
         }
 
-        void beginWindow() {
-            begun = true;
-        }
-
-        void instructionThrough() {
-            if (begun) {
-                wipe();
-            }
-        }
-
-        private void wipe() {
+        void wipe() {
             Arrays.fill(near, 0);
             Arrays.fill(same, 0);
             next = 0;
-            begun = false;
         }
 
         int nearAt(int i) {
-            return begun ? 0 : heldNear(i);
-        }
-
-        int sameAt(int i) {
-            return begun ? 0 : heldSame(i);
-        }
-
-        int heldNear(int i) {
             return i >= 0 && i < nearCount ? near[i] : 0;
         }
 
-        int heldSame(int i) {
+        int sameAt(int i) {
             return i >= 0 && i < sameCount ? same[i] : 0;
         }
 
         void keep(int address) {
-            if (begun) {
-                wipe();
-            }
-            if (nearCount > 0) {
+            // Without near its count is 0, and next is not below it.
+            if (next < nearCount) {
                 near[next] = address;
                 next = (next + 1) % nearCount;
             }
@@ -993,7 +969,9 @@ public final class VcdiffForms {
         }
 
         private void runWindow() {
-            caches.beginWindow();
+            // Not before: behind a FAULT in a WINDOW's first bytes the latest instruction was in
+            // the WINDOW before, and cache() tells what was there.
+            caches.wipe();
             for (int k = 0; k < ROW_MOST && fault == NO_FAULT && codes.left() > 0; k++) {
                 codePlace = codes.at;
                 int code = codes.next();
@@ -1056,7 +1034,6 @@ public final class VcdiffForms {
             for (int k = 0; k < size; k++) {
                 came.push(data.next());
             }
-            caches.instructionThrough();
             log.through(ADD, size, -1, 0);
             return true;
         }
@@ -1069,7 +1046,6 @@ public final class VcdiffForms {
             for (int k = 0; k < size; k++) {
                 came.push(b);
             }
-            caches.instructionThrough();
             log.through(RUN, size, -1, 0);
             return true;
         }
@@ -1338,7 +1314,7 @@ public final class VcdiffForms {
             moves.clear();
             data.clear();
             addresses.clear();
-            caches.beginWindow();
+            caches.wipe();
             int p = begin;
             for (int k = 0; k < WINDOW_MOST && p < finder.end(); k++) {
                 finder.search(p);

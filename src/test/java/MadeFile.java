@@ -1,4 +1,5 @@
 import java.util.ArrayList;
+import java.util.Arrays;
 import java.util.List;
 
 /** A file that make() made, taken apart. */
@@ -59,7 +60,7 @@ final class MadeFile {
     }
 
     private int[] part(int n) {
-        int[] part = java.util.Arrays.copyOfRange(bytes, at, at + n);
+        int[] part = Arrays.copyOfRange(bytes, at, at + n);
         at += n;
         return part;
     }

@@ -1,3 +1,5 @@
+import java.util.Arrays;
+
 /** Promise 14 and TO MAKE a FILE: each boundary that the document names, on both sides. */
 public final class MakeBoundaryTests {
     private static final int[] SAME_TABLE = Checks.join(
@@ -23,6 +25,7 @@ public final class MakeBoundaryTests {
         addressLengths();
         nearRound();
         otherCaches();
+        placesOfSame();
         cachesOfWindows();
         pairs();
         singles();
@@ -149,7 +152,7 @@ public final class MakeBoundaryTests {
             MadeFile file = MadeFile.of(row(n), 1);
             Checks.due("14 MARKS 1, the first window's mark, " + n, file.windows.get(0).marks, 4);
             Checks.due("14 MARKS 1, the first window's sum, " + n, file.windows.get(0).sum,
-                    Checks.sum(java.util.Arrays.copyOf(bytes, Math.min(n, 2048))));
+                    Checks.sum(Arrays.copyOf(bytes, Math.min(n, 2048))));
             Checks.due("14 without MARKS 1, " + n, MadeFile.of(row(n), 0).windows.get(0).marks, 0);
         }
         Checks.due("14 the last window's sum", MadeFile.of(row(2049), 1).last().sum,
@@ -349,8 +352,8 @@ public final class MakeBoundaryTests {
                     ? "C5@10m0" : "C4@" + (5 * others + 10) + "m" + (5 * others + 10 < 128 ? 0 : 1) + " A1");
             // The places may be in the target as well.
             String told = Checks.found(Checks.texts("", old + "abcde"), 0);
-            String last = told.substring(told.indexOf("C4@") < 0 ? 0 : told.lastIndexOf('C'));
-            Checks.due("14 places in the target, " + others, last.startsWith("C5@0m") ? 1 : 0, others <= 15 ? 1 : 0);
+            Checks.due("14 places in the target, " + others, told.substring(told.lastIndexOf('C'), told.lastIndexOf('m')),
+                    others <= 15 ? "C5@0" : "C4@" + 5 * others);
         }
         found("the most", "abcde1abcd2", "abcdef", "C5@0m0 A1");
         found("the most, later", "abcd1abcde2", "abcdef", "C5@5m0 A1");
@@ -410,7 +413,7 @@ public final class MakeBoundaryTests {
         int[] old = Checks.filled(oldSize, 3, 0);
         int[][] parts = new int[pieces.length / 2][];
         for (int k = 0; k < parts.length; k++) {
-            parts[k] = java.util.Arrays.copyOfRange(old, pieces[2 * k], pieces[2 * k] + pieces[2 * k + 1]);
+            parts[k] = Arrays.copyOfRange(old, pieces[2 * k], pieces[2 * k] + pieces[2 * k + 1]);
         }
         return x -> {
             x.fill(oldSize, 3, 0);
@@ -479,24 +482,28 @@ public final class MakeBoundaryTests {
         told("S 0: no same", Checks.then(x -> x.given(7, 0), ofPieces(1000, behindSeven)), 2,
                 "C4@300m0 C4@140m0 C4@10m0 C4@20m0 C4@30m0 C4@40m0 C4@50m0 C4@60m0 C6@300m0",
                 130, 44, 129, 12, 10, 20, 30, 40, 50, 60, 130, 44);
-        // S 1 and 1 of near: 300 and 556 are at the same place of same.
-        Checks.Steps sixAndOne = x -> {
-            x.given(1, 1);
-            for (int mode = 4; mode <= 8; mode++) {
-                for (int code = 19 + 16 * mode; code < 35 + 16 * mode; code++) {
-                    x.entry(code, 2, 3);
-                }
-                for (int code = mode < 6 ? 163 + 12 * mode : 235 + 4 * (mode - 6); code < (mode < 6 ? 175 + 12 * mode : 239 + 4 * (mode - 6)); code++) {
-                    x.entry(code, 5, 3);
-                }
-                x.entry(247 + mode, 2, 3);
+    }
+
+    /** N 1, S 1: MODES 0 to 3; what the usual table has by others is by MODE 3. */
+    private static void oneAndOne(VcdiffForms x) {
+        int[] usual = Checks.usualBytes();
+        x.given(1, 1);
+        for (int code = 0; code < 256; code++) {
+            if (usual[1024 + code] > 3) {
+                x.entry(code, 2, 3);
             }
-        };
-        told("S 1: 300 is at 44", Checks.then(sixAndOne, ofPieces(1000, 300, 4, 140, 4, 300, 6)), 2,
+            if (usual[1280 + code] > 3) {
+                x.entry(code, 5, 3);
+            }
+        }
+    }
+
+    private static void placesOfSame() {
+        told("S 1: 300 is at 44", Checks.then(x -> oneAndOne(x), ofPieces(1000, 300, 4, 140, 4, 300, 6)), 2,
                 "C4@300m0 C4@140m0 C6@300m3", 130, 44, 129, 12, 44);
-        told("S 1: 556 takes its place", Checks.then(sixAndOne, ofPieces(1000, 300, 4, 556, 4, 300, 6)), 2,
+        told("S 1: 556 takes its place", Checks.then(x -> oneAndOne(x), ofPieces(1000, 300, 4, 556, 4, 300, 6)), 2,
                 "C4@300m0 C4@556m0 C6@300m0", 130, 44, 132, 44, 130, 44);
-        told("S 1: 555 does not", Checks.then(sixAndOne, ofPieces(1000, 300, 4, 555, 4, 300, 6)), 2,
+        told("S 1: 555 does not", Checks.then(x -> oneAndOne(x), ofPieces(1000, 300, 4, 555, 4, 300, 6)), 2,
                 "C4@300m0 C4@555m0 C6@300m3", 130, 44, 132, 43, 44);
         // The last place of same 0 and the first of same 1; the last of all and the first of all.
         int[] lasts = {255, 256, 767, 768};
@@ -590,8 +597,8 @@ public final class MakeBoundaryTests {
     /** COPY 5 of 200, ADD 1, and a COPY of more from 200 on. */
     private static Checks.Steps addThenAgain(int n) {
         int[] old = Checks.filled(1000, 3, 0);
-        return Checks.oldAndRow(old, Checks.join(java.util.Arrays.copyOfRange(old, 200, 205), Checks.ints(old[205] ^ 1),
-                java.util.Arrays.copyOfRange(old, 200, 200 + n)));
+        return Checks.oldAndRow(old, Checks.join(Arrays.copyOfRange(old, 200, 205), Checks.ints(old[205] ^ 1),
+                Arrays.copyOfRange(old, 200, 200 + n)));
     }
 
     private static void singles() {

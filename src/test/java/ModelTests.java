@@ -1252,6 +1252,7 @@ public final class ModelTests {
         }
 
         void play() {
+            holdCaches();
             while (at[1] < ends[1]) {
                 codeAt = at[1];
                 code = take(1, 11);
@@ -1335,8 +1336,14 @@ public final class ModelTests {
             if (model.log.size() < 2000) {
                 model.log.add(new int[] {kind, size, address, mode});
             }
-            model.nearHeld = near.clone();
-            model.sameHeld = same.clone();
+            holdCaches();
+        }
+
+        private void holdCaches() {
+            if (reader.model != null) {
+                reader.model.nearHeld = near.clone();
+                reader.model.sameHeld = same.clone();
+            }
         }
     }
 }

@@ -271,7 +271,12 @@ public final class OpenBoundaryTests {
     }
 
     private static void inTable(String what, int[]... file) {
-        faults("in a table: " + what, 5, 6, Checks.tableHead(2, 4, 3, Checks.join(file)));
+        int[] given = Checks.tableHead(2, 5, 4, Checks.join(file));
+        faults("in a table: " + what, 5, 6, given);
+        VcdiffForms x = Checks.made(Checks.rowOf(given));
+        x.open();
+        Checks.toldIs("17 not taken, in a table: " + what, x, 0, 0, 0, 0, 0, 0, 0, 0, 4, 3);
+        Checks.due("20 no near 4, in a table: " + what, x.cache(0, 4), -2);
     }
 
     private static void tableFaults() {
@@ -481,6 +486,27 @@ public final class OpenBoundaryTests {
         faults("of RUN", 11, 16, HEAD, Checks.plain(4, data, Checks.ints(0), NONE));
         faults("of COPY", 11, 17, HEAD, Checks.plain(4, data, Checks.ints(2, 19), Checks.ints(0)));
         secondNumber();
+        pairs();
+    }
+
+    /** Each of the three first, each of them second. */
+    private static void pairs() {
+        int[][] halves = {{1, 2, 0}, {2, 3, 0}, {3, 4, 0}};
+        String[] names = {"A2", "R3", "C4@0m0"};
+        int[] dataSizes = {2, 1, 0};
+        for (int i = 0; i < 3; i++) {
+            for (int k = 0; k < 3; k++) {
+                int[] table = USUAL.clone();
+                Checks.lay(table, 200, Checks.join(halves[i], halves[k]));
+                int n = 1 + halves[i][1] + halves[k][1];
+                int[] window = Checks.plain(n, Checks.times(1 + dataSizes[i] + dataSizes[k], 7), Checks.ints(2, 200),
+                        Checks.times(i / 2 + k / 2, 0));
+                VcdiffForms x = Checks.made(Checks.rowOf(Checks.join(Checks.tableHead(2, 4, 3, Checks.adds(table)), window)));
+                Checks.due("15 a code of " + names[i] + " and " + names[k], x.open(), n);
+                Checks.due("18 a code of " + names[i] + " and " + names[k], Checks.instructions(x), "A1 " + names[i] + " " + names[k]);
+                Checks.due("17 a code of " + names[i] + " and " + names[k], x.told(4), 1);
+            }
+        }
     }
 
     /** Code 7 is ADD and RUN, both of a told size. */
@@ -571,7 +597,25 @@ public final class OpenBoundaryTests {
         }
         faults("a COPY of 0 from HERE", 14, 14, HEAD, Checks.plain(1, Checks.ints('a'), Checks.ints(2, 19, 0), Checks.ints(1)));
         faults("a COPY of 0 from below 0", 14, 14, HEAD, Checks.plain(1, Checks.ints('a'), Checks.ints(2, 35, 0), Checks.ints(2)));
+        // Near of 2 less what a missing or wrong number might stand for.
+        faults("near, no number", 14, 17, HEAD, Checks.plain(11, a, Checks.ints(4, 20, 52), Checks.ints(2)));
+        faults("near, half of a number", 14, 17, HEAD, Checks.plain(11, a, Checks.ints(4, 20, 52), Checks.ints(2, 128)));
+        faults("near, a wrong number", 14, 17, HEAD, Checks.plain(11, a, Checks.ints(4, 20, 52), Checks.join(Checks.ints(2), leading(5), Checks.ints(0))));
         inSegment();
+        cachesAtFirst();
+    }
+
+    /** The caches are 0 at a window's first instruction, though the window before had others. */
+    private static void cachesAtFirst() {
+        int[] before = Checks.plain(9, Checks.bytes("abcde"), Checks.ints(6, 20), Checks.ints(3));
+        for (int mode = 2; mode < 9; mode++) {
+            int[] window = Checks.window(1, 6, 3, 4, NONE, Checks.ints(20 + 16 * mode), Checks.ints(mode < 6 ? 1 : 3));
+            String want = mode < 6 ? "4567" : "3456";
+            Checks.due("15 the first instruction, MODE " + mode, Checks.outBytes(Checks.then(
+                    Checks.oldAndRow(TEN, Checks.join(HEAD, window)), x -> x.open())), Checks.bytes(want));
+            Checks.due("15 a second window's first instruction, MODE " + mode, Checks.outBytes(Checks.then(
+                    Checks.oldAndRow(TEN, Checks.join(HEAD, before, window)), x -> x.open())), Checks.bytes("abcdedede" + want));
+        }
     }
 
     private static void inSegment() {

@@ -1027,11 +1027,11 @@ public final class PromiseTests {
         x = of(join(HEAD, copies, window(5, ints('z'), ints(0, 5), ints())));
         due("20 a RUN in a second window", x.open(), 18);
         due("20 they are 0 behind it", x.cache(0, 0), 0);
-        // By the words: as it was behind the latest instruction, and that was in the first window.
+        // From where a window's instructions begin its own caches are told.
         x = of(join(HEAD, copies, window(5, ints('a'), ints(36), ints(1))));
         dueFault("20 a second window without an instruction that is through", x, 14, 5 + copies.length + 7 + 1);
-        due("20 behind the latest instruction", x.cache(0, 1), 4);
-        due("20 same behind the latest instruction", x.cache(1, 4), 4);
+        due("20 its own near", x.cache(0, 1), 0);
+        due("20 its own same", x.cache(1, 4), 0);
         x = of(join(HEAD, copies, window(4, ints('a'), ints(52), ints(3))));
         due("20 but that window's own are 0", x.open(), -24);
         x = of(join(HEAD, copies, window(9, ints('a', 'b', 'c', 'd', 'e'), ints(6, 52), ints(4))));

@@ -164,6 +164,9 @@ public final class ToldBoundaryTests {
         Checks.due("17 no appendix", opened(HEAD).told(6), 0);
         Checks.due("17 an appendix of none", opened(Checks.head(4), Checks.ints(0)).told(6), 0);
         Checks.due("17 an appendix of one", opened(Checks.head(4), Checks.ints(1, 9)).told(6), 1);
+        Checks.due("17 an appendix without a size", opened(Checks.head(4)).told(6), 0);
+        Checks.due("17 an appendix with half of a size", opened(Checks.head(4), Checks.ints(129)).told(6), 0);
+        Checks.due("17 an appendix with a wrong size", opened(Checks.head(4), Checks.times(5, 255)).told(6), 0);
         Checks.due("17 an appendix, and a fault behind it", opened(Checks.head(4), Checks.ints(1, 9, 8)).told(6), 1);
         Checks.toldIs("17 a table", opened(Checks.tableHead(2, 9, 16, SAME_TABLE)), 0, 0, 0, 0, 0, 0, 0, 1, 9, 16);
         Checks.toldIs("17 a table, and a fault behind it", opened(Checks.tableHead(2, 9, 16, SAME_TABLE), Checks.ints(8)),
@@ -374,6 +377,13 @@ public final class ToldBoundaryTests {
         x = opened(HEAD, copies, Checks.plain(1, Checks.ints(7), Checks.ints(2), NONE));
         Checks.due("20 0 in each WINDOW: near", x.cache(0, 0) + x.cache(0, 1), 0);
         Checks.due("20 0 in each WINDOW: same", x.cache(1, 3) + x.cache(1, 4), 0);
+        beforeInstructions(copies);
+        x = opened(HEAD, copies, run(5));
+        Checks.due("20 0 in each WINDOW, behind a RUN: near", x.cache(0, 0) + x.cache(0, 1), 0);
+        Checks.due("20 0 in each WINDOW, behind a RUN: same", x.cache(1, 3) + x.cache(1, 4), 0);
+        x = opened(HEAD, copies, Checks.window(2, 5, 0, 4, NONE, Checks.ints(20), Checks.ints(1)));
+        Checks.due("20 0 in each WINDOW, behind a COPY: near", x.cache(0, 0) * 10 + x.cache(0, 1), 10);
+        Checks.due("20 0 in each WINDOW, behind a COPY: same", x.cache(1, 3) + x.cache(1, 4), 0);
         // The first of near is next again.
         x = opened(HEAD, copies, Checks.plain(9, Checks.bytes("abcde"), Checks.ints(6, 20), Checks.ints(2)));
         Checks.due("20 in a second WINDOW the first is next", x.cache(0, 0), 2);
@@ -387,5 +397,20 @@ public final class ToldBoundaryTests {
         x.open();
         Checks.due("20 0 in a later open() before any WINDOW's", x.cache(0, 0), 0);
         Checks.due("20 same as well", x.cache(1, 3), 0);
+    }
+
+    /** A second window's own are told from where its instructions begin; before, those of the first one. */
+    private static void beforeInstructions(int[] copies) {
+        int[] window = Checks.plain(5, Checks.bytes("a"), Checks.ints(2, 20), Checks.ints(0));
+        for (int n = 1; n < window.length; n++) {
+            VcdiffForms x = opened(HEAD, copies, Arrays.copyOf(window, n));
+            Checks.due("20 a FAULT in a second WINDOW's first bytes, " + n, x.cache(0, 0) * 10 + x.cache(0, 1), 34);
+            Checks.due("20 a FAULT in a second WINDOW's first bytes, " + n + ", same", x.cache(1, 3) * 10 + x.cache(1, 4), 34);
+        }
+        VcdiffForms x = opened(HEAD, copies, Checks.ints(8));
+        Checks.due("20 a second WINDOW's wrong first byte", x.cache(0, 0) * 10 + x.cache(0, 1), 34);
+        x = opened(HEAD, copies, Checks.plain(4, NONE, Checks.ints(20), Checks.ints(0)));
+        Checks.due("20 a FAULT at a second WINDOW's first instruction", x.cache(0, 0) + x.cache(0, 1), 0);
+        Checks.due("20 a FAULT at a second WINDOW's first instruction, same", x.cache(1, 3) + x.cache(1, 4), 0);
     }
 }

@@ -1145,7 +1145,7 @@ public final class VcdiffForms {
             enterUpTo(p);
             int q = heads[chainOf(p)];
             int seen = 0;
-            for (int k = 0; k < links.length && q >= 0 && seen < MATCHES_MOST; k++) {
+            for (int k = 0; k < links.length && q >= 0 && q < links.length && seen < MATCHES_MOST; k++) {
                 int n = sameLength(q, p);
                 if (n >= MATCH_LEAST) {
                     seen++;
@@ -1229,7 +1229,7 @@ public final class VcdiffForms {
             int size = moves.sizeOf(i);
             int nextSize = moves.sizeOf(i + 1);
             int code = head(size);
-            for (int k = 0; k < CODES && code >= 0; k++) {
+            for (int k = 0; k < CODES && code >= 0 && code < CODES; k++) {
                 if (moves.isHalf(i, table, code, FIRST, size)
                         && moves.isHalf(i + 1, table, code, SECOND, nextSize)) {
                     return code;
@@ -1241,7 +1241,7 @@ public final class VcdiffForms {
 
         int singleCode(Table table, Moves moves, int i, int size) {
             int code = head(size);
-            for (int k = 0; k < CODES && code >= 0; k++) {
+            for (int k = 0; k < CODES && code >= 0 && code < CODES; k++) {
                 if (table.get(code, SECOND + KIND) == NOTHING
                         && moves.isHalf(i, table, code, FIRST, size)) {
                     return code;
